@@ -1,0 +1,98 @@
+import java.util.function.IntSupplier;
+
+/** What all tests share: feeding texts, reading the PAGE, and keeping account of the answers. */
+final class Checks {
+    static final int FUEL = 20000;
+
+    private static int passed;
+    private static int failed;
+
+    private Checks() {
+    }
+
+    static void due(String what, long got, long want) {
+        count(got == want, what, String.valueOf(got), String.valueOf(want));
+    }
+
+    static void due(String what, String got, String want) {
+        count(got.equals(want), what, got, want);
+    }
+
+    static void throwsIllegalArgument(String what, IntSupplier call) {
+        String got;
+        try {
+            got = "answer " + call.getAsInt();
+        } catch (RuntimeException e) {
+            got = e.getClass().getName();
+        }
+        due(what, got, "java.lang.IllegalArgumentException");
+    }
+
+    private static void count(boolean right, String what, String got, String want) {
+        if (right) {
+            passed++;
+        } else {
+            failed++;
+            System.out.println(what + " answered " + got + ", due is " + want);
+        }
+    }
+
+    static void finish(String test) {
+        System.out.println(test + ": " + passed + " answers as due, " + failed + " not");
+        if (failed != 0 || passed == 0) {
+            System.exit(1);
+        }
+    }
+
+    /** Feeds a text, with blanks behind it to the next twenty bytes: its own length. */
+    static int feed(ConsYard yard, String text) {
+        int[] words = new int[5];
+        for (int start = 0; start < text.length(); start += 20) {
+            for (int word = 0; word < 5; word++) {
+                words[word] = 0;
+                for (int k = start + word * 4; k < start + word * 4 + 4; k++) {
+                    words[word] = words[word] << 8 | (k < text.length() ? text.charAt(k) & 255 : ' ');
+                }
+            }
+            yard.feed(words[0], words[1], words[2], words[3], words[4]);
+        }
+        return text.length();
+    }
+
+    static int define(ConsYard yard, String text) {
+        return yard.define(feed(yard, text));
+    }
+
+    static int eval(ConsYard yard, String text, int fuel) {
+        return yard.eval(feed(yard, text), fuel);
+    }
+
+    static int echo(ConsYard yard, String text) {
+        return yard.echo(feed(yard, text));
+    }
+
+    static String page(ConsYard yard) {
+        StringBuilder page = new StringBuilder();
+        for (int k = 0; yard.octet(k) != ConsYard.NONE; k++) {
+            page.append((char) yard.octet(k));
+        }
+        return page.toString();
+    }
+
+    /** The PAGE, or the FAULT and its place. */
+    static String outcome(ConsYard yard, int fault) {
+        return fault == 0 ? page(yard) : "fault " + fault + " at " + yard.place();
+    }
+
+    static String evalOutcome(ConsYard yard, String text) {
+        return outcome(yard, eval(yard, text, FUEL));
+    }
+
+    static String echoOutcome(ConsYard yard, String text) {
+        return outcome(yard, echo(yard, text));
+    }
+
+    static String repeat(String part, int times) {
+        return part.repeat(times);
+    }
+}
