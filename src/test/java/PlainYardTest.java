@@ -21,7 +21,7 @@ final class PlainYardTest {
     }
 
     public static void main(String[] args) {
-        for (int seed = 0; seed < 1500; seed++) {
+        for (int seed = 0; seed < 400; seed++) {
             new PlainYardTest(seed).run();
         }
         Checks.finish("PlainYardTest");
@@ -44,11 +44,37 @@ final class PlainYardTest {
                 case 4:
                     read("define", pick(random.nextInt(6) == 0 ? NAMES : OWN) + " " + function(3));
                     break;
+                case 5:
+                    tightRooms();
+                    break;
                 default:
-                    read("eval", expression(5));
+                    read("eval", program());
                     break;
             }
         }
+    }
+
+    /** The same program in one ROOM after another, so that MEMORY ends at every CELL that it makes. */
+    private void tightRooms() {
+        String program = program();
+        if (random.nextInt(3) != 0) {
+            // a short text leaves the ROOM to the machine
+            read("define", "H (LAMBDA (X Y Z) " + expression(5) + ")");
+            program = "(H '(A B) " + random.nextInt(9) + " T)";
+        }
+        int functions = yard.count(1);
+        for (int n = functions + random.nextInt(6); n < Math.min(functions + 90, 2000); n += 1 + random.nextInt(8)) {
+            room(n);
+            read("eval", program);
+        }
+        room(2000);
+    }
+
+    private String program() {
+        if (random.nextInt(4) == 0) {
+            return expression(5);
+        }
+        return "((LAMBDA (X Y Z) " + expression(4) + ") " + random.nextInt(9) + " '" + datum(2) + " " + expression(2) + ")";
     }
 
     private String pick(String[] from) {
@@ -128,11 +154,36 @@ final class PlainYardTest {
     }
 
     private String call(int depth) {
+        if (random.nextInt(3) != 0) {
+            return fittingCall(depth);
+        }
         StringBuilder call = new StringBuilder("(").append(function(depth - 1));
         for (int k = random.nextInt(4); k > 0; k--) {
             call.append(' ').append(expression(depth - 1));
         }
         return call.append(')').toString();
+    }
+
+    /** A call with as many VALUES as wanted, for else most programs would end with FAULT 11. */
+    private String fittingCall(int depth) {
+        String one = expression(depth - 1);
+        String two = one + " " + expression(depth - 1);
+        switch (random.nextInt(7)) {
+            case 0:
+                return "(CAR " + one + ")";
+            case 1:
+                return "(CDR " + one + ")";
+            case 2:
+                return "(LIST " + two + ")";
+            case 3:
+                return "(PLUS " + two + ")";
+            case 4:
+                return "((LAMBDA (F) (LIST (F " + two + ") X)) (FUNCTION (LAMBDA (X Y) " + expression(depth - 1) + ")))";
+            case 5:
+                return "((LABEL G (LAMBDA (Z) (COND ((ATOM Z) " + one + ") (T (CONS (CAR Z) (G (CDR Z))))))) '(A B C))";
+            default:
+                return "((LAMBDA (X Y) " + expression(depth - 1) + ") " + two + ")";
+        }
     }
 
     private void room(int n) {
