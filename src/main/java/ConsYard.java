@@ -438,11 +438,11 @@ public final class ConsYard {
             if (inUse() >= limit) {
                 collect(head, tail);
             }
-            if (inUse() >= limit || freeCount <= 0) {
+            int cell = freeCount > 0 && freeCount <= CELL_LIMIT ? free[freeCount - 1] : NONE;
+            if (inUse() >= limit || cell < 0 || cell >= CELL_LIMIT) {
                 return Value.MISSING;
             }
             freeCount--;
-            int cell = free[freeCount];
             heads[cell] = head;
             tails[cell] = tail;
             made++;
@@ -809,12 +809,11 @@ public final class ConsYard {
             return mostFrames;
         }
 
-        /** Nothing of an earlier run is told any more, and none of it keeps CELLS. */
+        /** Nothing of an earlier run is told any more. */
         void forget() {
             fault = NO_FAULT;
             fuelTaken = 0;
             mostFrames = 0;
-            letGo();
         }
 
         void run(long s, int fuel) {
@@ -836,6 +835,7 @@ public final class ConsYard {
             letGo();
         }
 
+        // between runs functions alone are ROOTS
         private void letGo() {
             roots.x = NIL;
             roots.env = NIL;
@@ -844,6 +844,7 @@ public final class ConsYard {
             emptyHand();
         }
 
+        // once applied, a function and its VALUES are no longer at hand, and so no ROOTS
         private void emptyHand() {
             roots.function = NIL;
             hand.cut(0);

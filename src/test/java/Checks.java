@@ -91,8 +91,4 @@ final class Checks {
     static String echoOutcome(ConsYard yard, String text) {
         return outcome(yard, echo(yard, text));
     }
-
-    static String repeat(String part, int times) {
-        return part.repeat(times);
-    }
 }

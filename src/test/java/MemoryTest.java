@@ -4,6 +4,8 @@ final class MemoryTest {
         texts();
         machine();
         ownFunctions();
+        keepsNothingBetweenCalls();
+        keepsOnlyWhatIsAtHand();
         takesBack();
         Checks.finish("MemoryTest");
     }
@@ -80,6 +82,45 @@ final class MemoryTest {
         yard.room(10);
         Checks.due("enough", Checks.evalOutcome(yard, "(F 1)"), "(1 . 1)");
         Checks.due("nothing stays", yard.count(1), 7);
+    }
+
+    private static void keepsNothingBetweenCalls() {
+        ConsYard yard = new ConsYard();
+        Checks.echo(yard, "((A B) (C D");
+        Checks.due("of half a text", yard.count(1), 0);
+        Checks.eval(yard, "'(A B C)", Checks.FUEL);
+        Checks.due("of an answer", yard.count(1), 0);
+        Checks.eval(yard, "((LAMBDA (X Y) (CAR 5)) '(A B) '(C D))", Checks.FUEL);
+        Checks.due("of a FAULT", yard.count(1), 0);
+        Checks.eval(yard, "(LIST '(A B) (LIST '(A B) '(C D)))", 6);
+        Checks.due("of FRAMES without FUEL", yard.count(1), 0);
+        Checks.eval(yard, "(CAR '(A B) '(C D))", Checks.FUEL);
+        Checks.due("of VALUES", yard.count(1), 0);
+        Checks.eval(yard, "((LABEL A B C) 'D)", Checks.FUEL);
+        Checks.due("of a function", yard.count(1), 0);
+        yard.room(7);
+        Checks.due("nor in the next text", Checks.echoOutcome(yard, "(A B C D E F G)"), "(A B C D E F G)");
+        Checks.define(yard, "F (A)");
+        Checks.due("only a function is kept", yard.count(1), 1);
+    }
+
+    /** VALUES and a function are no ROOTS any more, once they have been applied. */
+    private static void keepsOnlyWhatIsAtHand() {
+        ConsYard yard = new ConsYard();
+        Checks.define(yard, "F (LAMBDA (X) (LIST (CAR '(A B C)) (FUNCTION A)))");
+        Checks.due("CELLS of F", yard.count(1), 16);
+        // these, ENV's 2, the FUNARG's 3 and the LIST's 2: the text has been let go of
+        yard.room(23);
+        Checks.due("enough", Checks.evalOutcome(yard, "(F 1)"), "(A (FUNARG A ((X . 1))))");
+        yard.room(22);
+        Checks.due("one less", Checks.eval(yard, "(F 1)", Checks.FUEL), 8);
+        Checks.define(yard, "F 1");
+        // 11 to read; at FUNCTION X has 2, ENV has 3 and the FUNARG needs 3: with the LAMBDA's 4 it would be one too many
+        String text = "((LAMBDA (X) (FUNCTION A)) '(B))";
+        yard.room(11);
+        Checks.due("the LAMBDA is let go of", Checks.evalOutcome(yard, text), "(FUNARG A ((X B)))");
+        yard.room(10);
+        Checks.due("one less", Checks.evalOutcome(yard, text), "fault 8 at 31");
     }
 
     private static void takesBack() {

@@ -3,6 +3,7 @@ final class Promise05EchoTest {
     public static void main(String[] args) {
         printsWhatItRead();
         tellsFaults();
+        endsWithItsLength();
         goesSixtyDeep();
         knowsThreeHundredSymbols();
         cutsThePage();
@@ -61,8 +62,31 @@ final class Promise05EchoTest {
         Checks.due("nor one that can't stand there", yard.count(0), 27);
     }
 
+    /** What stands on the TAPE behind the first n bytes is no part of the text. */
+    private static void endsWithItsLength() {
+        Object[][] texts = {
+            {"ABC", 2, "AB"}, {"ABCDEFGHIJK", 10, "ABCDEFGHIJ"}, {"123", 2, "12"}, {"21474836470", 10, "2147483647"}, {"-123", 3, "-12"},
+            {"(-5)", 2, "fault 1 at 1"}, {"-5", 1, "fault 1 at 0"}, {"(A)", 2, "fault 1 at 2"}, {"'A", 1, "fault 1 at 1"},
+            {"A)", 1, "A"}, {"   A", 3, "fault 1 at 3"}, {"A", 0, "fault 1 at 0"},
+        };
+        for (Object[] row : texts) {
+            ConsYard yard = new ConsYard();
+            Checks.feed(yard, (String) row[0]);
+            Checks.due("echo(" + row[1] + ") of " + row[0], Checks.outcome(yard, yard.echo((Integer) row[1])), (String) row[2]);
+            Checks.due("the whole TAPE is empty then", yard.count(6), 0);
+        }
+        ConsYard yard = new ConsYard();
+        Checks.feed(yard, " F A");
+        Checks.due("define(1)", yard.define(1) + " " + yard.place(), "1 1");
+        Checks.feed(yard, "FG A");
+        Checks.due("define(1)", yard.define(1) + " " + yard.place(), "1 1");
+        Checks.due("the SYMBOL F", yard.count(0), 24);
+    }
+
     private static void goesSixtyDeep() {
         String deep = "(".repeat(60) + "A" + ")".repeat(60);
+        String filled = "(X ".repeat(60) + "A" + ")".repeat(60);
+        Checks.due("60 lists with more in them", Checks.echoOutcome(new ConsYard(), filled), filled);
         Checks.due("60 lists", Checks.echoOutcome(new ConsYard(), deep), deep);
         Checks.due("61 lists", Checks.echoOutcome(new ConsYard(), "(" + deep + ")"), "fault 4 at 60");
         String quotes = "'".repeat(60);
