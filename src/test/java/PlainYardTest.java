@@ -24,6 +24,9 @@ final class PlainYardTest {
         for (int seed = 0; seed < 400; seed++) {
             new PlainYardTest(seed).run();
         }
+        for (int seed = 0; seed < 60; seed++) {
+            new PlainYardTest(seed).runWild();
+        }
         Checks.finish("PlainYardTest");
     }
 
@@ -51,6 +54,61 @@ final class PlainYardTest {
                     read("eval", program());
                     break;
             }
+        }
+    }
+
+    /** Any call with any argument, 512 times. */
+    private void runWild() {
+        for (int call = 0; call < 512; call++) {
+            int n = wildNumber();
+            int m = wildNumber();
+            String what = "seed " + seed + " wild call " + call + " with " + n + ", " + m + " answered, ";
+            switch (random.nextInt(14)) {
+                case 0:
+                    Checks.due(what + "define", answer(() -> yard.define(n)), answer(() -> plain.define(n)));
+                    break;
+                case 1:
+                    Checks.due(what + "eval", answer(() -> yard.eval(n, m)), answer(() -> plain.eval(n, m)));
+                    break;
+                case 2:
+                    Checks.due(what + "echo", answer(() -> yard.echo(n)), answer(() -> plain.echo(n)));
+                    break;
+                case 3:
+                    Checks.due(what + "place", yard.place(), plain.place());
+                    break;
+                case 4:
+                    Checks.due(what + "room", answer(() -> yard.room(n)), answer(() -> plain.room(n)));
+                    break;
+                case 5:
+                    Checks.due(what + "count", yard.count(n), plain.count(n));
+                    break;
+                case 6:
+                    Checks.due(what + "function", yard.function(n), plain.function(n));
+                    break;
+                case 7:
+                    Checks.due(what + "octet", yard.octet(n), plain.octet(n));
+                    break;
+                case 8:
+                    Checks.due(what + "feed", yard.feed(n, m, n, m, n), plain.feed(n, m, n, m, n));
+                    break;
+                default:
+                    feed(soup());
+                    break;
+            }
+        }
+        compareCounts("seed " + seed + " after wild calls");
+    }
+
+    private int wildNumber() {
+        switch (random.nextInt(5)) {
+            case 0:
+                return random.nextInt();
+            case 1:
+                return random.nextInt(2100) - 50;
+            case 2:
+                return yard.count(6) - random.nextInt(20);
+            default:
+                return random.nextInt(40) - 2;
         }
     }
 
