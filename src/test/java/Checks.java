@@ -44,6 +44,26 @@ final class Checks {
         }
     }
 
+    /** All that can be seen of an object without changing it. */
+    static String state(ConsYard yard) {
+        StringBuilder state = new StringBuilder("counts");
+        for (int what = 0; what <= 8; what++) {
+            state.append(' ').append(yard.count(what));
+        }
+        return state.append(", place ").append(yard.place()).append(", PAGE [").append(page(yard)).append(']').toString();
+    }
+
+    /** Reads new SYMBOLS until there are so many. */
+    static void fillSymbols(ConsYard yard, int symbols) {
+        while (yard.count(0) < symbols) {
+            StringBuilder text = new StringBuilder("(");
+            for (int k = yard.count(0); k < symbols && text.length() < 1900; k++) {
+                text.append(" S").append(k);
+            }
+            echo(yard, text.append(')').toString());
+        }
+    }
+
     /** Feeds a text, with blanks behind it to the next twenty bytes: its own length. */
     static int feed(ConsYard yard, String text) {
         int[] words = new int[5];
