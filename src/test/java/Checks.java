@@ -105,7 +105,11 @@ final class Checks {
     }
 
     static String evalOutcome(ConsYard yard, String text) {
-        return outcome(yard, eval(yard, text, FUEL));
+        return evalOutcome(yard, text, FUEL);
+    }
+
+    static String evalOutcome(ConsYard yard, String text, int fuel) {
+        return outcome(yard, eval(yard, text, fuel));
     }
 
     static String echoOutcome(ConsYard yard, String text) {
