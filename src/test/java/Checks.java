@@ -53,9 +53,9 @@ final class Checks {
         return state.append(", place ").append(yard.place()).append(", PAGE [").append(page(yard)).append(']').toString();
     }
 
-    /** Reads new SYMBOLS until there are so many. */
+    /** Reads new SYMBOLS until there are so many; a text takes hundreds, and a wrong program must not hang a test. */
     static void fillSymbols(ConsYard yard, int symbols) {
-        while (yard.count(0) < symbols) {
+        for (int turn = 0; turn < 10 && yard.count(0) < symbols; turn++) {
             StringBuilder text = new StringBuilder("(");
             for (int k = yard.count(0); k < symbols && text.length() < 1900; k++) {
                 text.append(" S").append(k);
@@ -91,9 +91,10 @@ final class Checks {
         return yard.echo(feed(yard, text));
     }
 
+    /** The PAGE, and a byte behind the last that it may have, if there is one. */
     static String page(ConsYard yard) {
         StringBuilder page = new StringBuilder();
-        for (int k = 0; yard.octet(k) != ConsYard.NONE; k++) {
+        for (int k = 0; k <= 2000 && yard.octet(k) != ConsYard.NONE; k++) {
             page.append((char) yard.octet(k));
         }
         return page.toString();

@@ -32,6 +32,7 @@ final class EdgeMachineTest {
         twoHundredFramesOfCond();
         theFirstFaultOfSeveral();
         printedEndsAtTwoThousand();
+        nothingOfAFullPageComesLater();
         Checks.finish("EdgeMachineTest");
     }
 
@@ -297,6 +298,8 @@ final class EdgeMachineTest {
         }
         row("((LAMBDA (A B C D E F G H I J) (LIST J I H G F E D C B A)) 1 2 3 4 5 6 7 8 9 0)", "(0 9 8 7 6 5 4 3 2 1)", 22 + 1 + 20 + 55 + 2, 1);
         row("((LAMBDA (X X) X) 1 2)", "1", 9, 1);
+        row("((LAMBDA (X Y) ((LAMBDA (Z) (LIST X Y Z)) 3)) 1 2)", "(1 2 3)", 25, 1);
+        row("((LAMBDA (X Y) ((LAMBDA (Y) (LIST X Y)) 3)) 1 2)", "(1 3)", 20, 1);
     }
 
     /** "Those from CAR on, with as many VALUES as told, else FAULT 11". */
@@ -532,6 +535,33 @@ final class EdgeMachineTest {
                 Checks.due("these", Checks.page(yard), whole.substring(0, Math.min(whole.length(), 2000)));
             }
         }
+    }
+
+    /** "what is more is left out", and is not told by what is PRINTED next. */
+    private static void nothingOfAFullPageComesLater() {
+        ConsYard yard = new ConsYard();
+        yard.room(2000);
+        Checks.define(yard, "D (LAMBDA (X N) (COND ((EQ N 0) X) (T (D (CONS X X) (DIFFERENCE N 1)))))");
+        Checks.define(yard, "F (G . H)");
+        String[] texts = {"A", "5", "()", "(A)", "(A . B)", "((A) B)"};
+        String[] printed = {"A", "5", "NIL", "(A)", "(A . B)", "((A) B)"};
+        for (int k = 0; k < texts.length; k++) {
+            fillPage(yard);
+            Checks.due("echo " + texts[k], Checks.echoOutcome(yard, texts[k]), printed[k]);
+            fillPage(yard);
+            Checks.due("eval " + texts[k], Checks.evalOutcome(yard, "(QUOTE " + texts[k] + ")"), printed[k]);
+        }
+        fillPage(yard);
+        Checks.due("function", yard.function(26) + Checks.page(yard), "7(G . H)");
+        fillPage(yard);
+        Checks.due("a FAULT of the text", Checks.echo(yard, ")") + Checks.page(yard), "1");
+        fillPage(yard);
+        Checks.due("a FAULT of the machine", Checks.eval(yard, "A", 9) + Checks.page(yard), "6");
+    }
+
+    private static void fillPage(ConsYard yard) {
+        Checks.due("a full PAGE", Checks.eval(yard, "(D '(A) 30)", 20000), 0);
+        Checks.due("its bytes", yard.count(5), 2000);
     }
 
     private static String doubled(int times) {

@@ -18,7 +18,9 @@ final class EdgeMemoryTest {
         framesOfCondAreRoots();
         cellsOfTheSameActAreRoots();
         whatIsNotReachedCountsForNothing();
+        noFaultKeepsAnything();
         sharedCellsCountOnce();
+        headsInHeads();
         theMachinesFaultHasNoPlace();
         cellsNeverChange();
         Checks.finish("EdgeMemoryTest");
@@ -254,6 +256,49 @@ final class EdgeMemoryTest {
         // F 27, ENV 2, and the (F n) that LIST makes 2
         needs(loop, "(F 200)", 27 + 2 + 2, "END");
         Checks.due("made", loop.count(4) > 2000 ? 1 : 0, 1);
+    }
+
+    /** "(What isn't REACHED counts for nothing.)": wherever the machine ends, functions alone reach CELLS then. */
+    private static void noFaultKeepsAnything() {
+        String[] texts = {"((LAMBDA (X) X) (QUOTE))", "((LAMBDA (X) X) A)", "((LAMBDA (X) X) (COND))", "((LAMBDA (X) X) ('F))", "((LAMBDA (X) X) (CAR))",
+            "((LAMBDA (X) X) (CAR 'A))", "((LAMBDA (S) (EVAL S (LIST (CONS 'S S)))) '(LIST (EVAL S (LIST (CONS 'S S)))))",
+            "((LAMBDA (X Y) (LIST X (LIST Y (CONS X Y)))) '(A) '(B))", "(COND ((ATOM '(A B)) 1) ((ATOM '(C)) 2))", "((FUNARG (LAMBDA () (LIST X A)) ((X . (B C)))))"};
+        int[] faults = {5, 6, 9, 10, 11, 13, 12, 0, 9, 6};
+        for (int k = 0; k < texts.length; k++) {
+            ConsYard yard = new ConsYard();
+            yard.room(2000);
+            Checks.due(texts[k], Checks.eval(yard, texts[k], 20000), faults[k]);
+            Checks.due("it keeps no CELLS", yard.count(1), 0);
+            int fuel = Math.min(60, yard.count(2));
+            for (int less = 0; less < fuel; less++) {
+                Checks.due(texts[k] + " with FUEL " + less, Checks.eval(yard, texts[k], less), 7);
+                Checks.due("it keeps no CELLS", yard.count(1), 0);
+            }
+            yard.room(5);
+            Checks.due("all ROOM is there", Checks.echoOutcome(yard, "(1 2 3 4 5)"), "(1 2 3 4 5)");
+        }
+        ConsYard yard = new ConsYard();
+        for (int room = 0; room <= 20; room++) {
+            yard.room(room);
+            Checks.eval(yard, "((LAMBDA (X Y) (LIST X Y X Y X Y X Y)) 1 2)", 20000);
+            Checks.due("in ROOM " + room + " it keeps no CELLS", yard.room(0), 0);
+        }
+    }
+
+    /** REACHED are "those that are HEAD or TAIL of one that is REACHED", however far: 1,824 lists in one another. */
+    private static void headsInHeads() {
+        ConsYard yard = yardWith("V (LAMBDA (X) " + "(LIST ".repeat(32) + "X" + ")".repeat(33));
+        String text = "(V ".repeat(57) + "1" + ")".repeat(57);
+        String due = "(".repeat(1824) + "1" + ")".repeat(175);
+        // V 4 + 64; in the last call but one ENV 2, the FRAME's list 1 + 2 * 56, and its own VALUE 56 * 32
+        int room = 68 + 2 + 113 + 56 * 32;
+        Checks.due("ROOM", room, 1975);
+        yard.room(room);
+        Checks.due("in " + room, Checks.evalOutcome(yard, text), due);
+        Checks.due("and again", Checks.evalOutcome(yard, text), due);
+        yard.room(room - 1);
+        Checks.due("in one less", Checks.evalOutcome(yard, text), "fault 8 at -1");
+        Checks.due("V", yard.count(1), 68);
     }
 
     /** REACHED are CELLS: one that is HEAD and TAIL, or in two functions' way, counts once. */
