@@ -27,6 +27,9 @@ final class PlainYardTest {
         for (int seed = 0; seed < 60; seed++) {
             new PlainYardTest(seed).runWild();
         }
+        for (int seed = 0; seed < 60; seed++) {
+            new PlainYardTest(seed).runWholeLife();
+        }
         Checks.finish("PlainYardTest");
     }
 
@@ -97,6 +100,47 @@ final class PlainYardTest {
             }
         }
         compareCounts("seed " + seed + " after wild calls");
+    }
+
+    /** "An object is used for at most 512 calls": 512 and no more, each with texts that mean something. */
+    private void runWholeLife() {
+        int calls = 0;
+        while (calls < 512) {
+            String what = "seed " + seed + ", call " + (calls + 1) + " of 512: ";
+            int n = random.nextInt(30);
+            String text = random.nextInt(3) == 0 ? pick(OWN) + " " + function(3) : program();
+            int feeds = (text.length() + 19) / 20;
+            if (random.nextInt(3) == 0 && text.length() <= 2000 && calls + feeds < 512) {
+                feed(text);
+                calls += feeds;
+                readWholeTape(what, text);
+            } else if (random.nextInt(6) == 0) {
+                int room = random.nextInt(2) == 0 ? 2000 : random.nextInt(300);
+                Checks.due(what + "room " + room, answer(() -> yard.room(room)), answer(() -> plain.room(room)));
+            } else if (random.nextInt(4) == 0) {
+                Checks.due(what + "function " + n, yard.function(n), plain.function(n));
+            } else if (random.nextInt(4) == 0) {
+                Checks.due(what + "octet " + n, yard.octet(n), plain.octet(n));
+            } else if (random.nextInt(6) == 0) {
+                Checks.due(what + "place", yard.place(), plain.place());
+            } else {
+                Checks.due(what + "count " + n % 9, yard.count(n % 9), plain.count(n % 9));
+            }
+            calls++;
+        }
+    }
+
+    private void readWholeTape(String what, String text) {
+        int n = text.length();
+        int fuel = random.nextInt(20001);
+        boolean defines = text.startsWith("F ") || text.startsWith("G ") || text.startsWith("H ");
+        if (defines) {
+            Checks.due(what + "define " + text, answer(() -> yard.define(n)), answer(() -> plain.define(n)));
+        } else if (random.nextInt(6) == 0) {
+            Checks.due(what + "echo " + text, answer(() -> yard.echo(n)), answer(() -> plain.echo(n)));
+        } else {
+            Checks.due(what + "eval " + text, answer(() -> yard.eval(n, fuel)), answer(() -> plain.eval(n, fuel)));
+        }
     }
 
     private int wildNumber() {
