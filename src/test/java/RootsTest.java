@@ -112,7 +112,10 @@ final class RootsTest {
         needs(ACTS[act] + " behind COND's VALUE", yard, "(H)", Math.max(k, needed(act)));
     }
 
-    /** "X": the text at FUNCTION and at a LABEL, the last that was EVALUATED at LAMBDA and LIST. */
+    /**
+     * "X": the text at FUNCTION and at a LABEL, the last that was EVALUATED at LAMBDA and LIST. At CONS no
+     * ROOM tells: its one CELL never needs more than the FRAME with both of its arguments did.
+     */
     private static void x(int k) {
         needs("FUNCTION's own X", new ConsYard(), "(FUNCTION A" + " B".repeat(k) + ")", 2 + k + 3);
         needs("LABEL's own X", new ConsYard(), "((LABEL P LIST" + " B".repeat(k) + "))", 4 + k + 2);
